@@ -554,8 +554,8 @@ public final class OysterBeds {
         told.start();
         told.add(Integer.bitCount(views));
         if (views != 0) {
-            told.add(Integer.numberOfTrailingZeros(views));
-            told.add(31 - Integer.numberOfLeadingZeros(views));
+            told.add(Views.leastIn(views));
+            told.add(Views.greatestIn(views));
         }
         return views;
     }
@@ -1487,6 +1487,23 @@ public final class OysterBeds {
             return topic < 0 || topic >= TOPICS ? 0 : WITH_YES[topic];
         }
 
+        /** Of VIEWS told as bits the least one. */
+        static int leastIn(int views) {
+            int least = 0;
+            while (least < VIEWS && (views >> least & 1) == 0) {
+                least++;
+            }
+            return least;
+        }
+
+        static int greatestIn(int views) {
+            int greatest = VIEWS - 1;
+            while (greatest > 0 && (views >> greatest & 1) == 0) {
+                greatest--;
+            }
+            return greatest;
+        }
+
         /** Of each TOPIC yes, if more in a set of OYSTERS hold yes than no. */
         static int ofMost(Bed bed, int set) {
             int view = 0;
@@ -1574,7 +1591,7 @@ public final class OysterBeds {
         /** How much a set and the others differ in what they count. */
         static int apart(Bed bed, int set) {
             int apart = 2 * weight(bed, set) - weight(bed, bed.all());
-            return Math.max(apart, -apart);
+            return Math.abs(apart);
         }
 
         static boolean decides(Bed bed, int set) {

@@ -89,6 +89,8 @@ public final class AskingPromisesTest {
         told(x, "17: none closes", x.honest(), 30, 10);
         Checks.rule(x, "v*(w=7)");
         told(x, "17: by one wording", x.honest(), 7, 13);
+        OysterBeds one = Checks.with("n001", "v*(w=7)+(v=0)");
+        told(one, "17: just one", one.honest(), 7, 1);
         OysterBeds none = Checks.with("n000", "1");
         none.later(0);
         told(none, "17: there is none", none.honest(), -2, 1);
@@ -318,6 +320,13 @@ public final class AskingPromisesTest {
         shut.seen(2, 0, 0);
         told(shut, "38: a shut one", shut.cares(0), 65535, 16, 0, 15);
         due("38: the view stays", shut.oyster(0, 2), 3);
+        OysterBeds one = Checks.with("n000", "v=1");
+        one.seen(3, 0, 1);
+        told(one, "38: v is 1", one.cares(0), 0xFF00, 8, 8, 15);
+        one.seen(0, 0, 0);
+        told(one, "38: v is 0", one.cares(0), 0x5500, 4, 8, 14);
+        one.seen(2, 0, 2);
+        told(one, "38: it is but one", one.cares(0), 0, 0);
     }
 
     private static void promise39() {
@@ -397,6 +406,24 @@ public final class AskingPromisesTest {
         pearls.tides(1);
         pearls.stills(1, 0);
         told(pearls, "43: by pearls", pearls.asks(), 41, 1);
+        pearls.heard(4, 1);
+        told(pearls, "42: by pearls", pearls.fits(), 1, 1);
+        pearls.denies();
+        pearls.puts(0, 0);
+        pearls.tides(1);
+        pearls.stills(1, 1);
+        pearls.puts(0, 0);
+        pearls.tides(1);
+        pearls.stills(1, 0);
+        told(pearls, "43: by two pearls", pearls.asks(), 42, 1);
+        OysterBeds eight = Checks.with("n000;n000;n000;n000;n000;n000;n000;n000");
+        told(eight, "43: all alike", eight.asks(), 0, 8);
+        OysterBeds fears = Checks.with("n800;n900");
+        told(fears, "43: by fear", fears.asks(), 19, 1);
+        OysterBeds views = Checks.with("n008;n000");
+        told(views, "43: by view", views.asks(), 23, 1);
+        OysterBeds kinds = Checks.with("p000;r000");
+        told(kinds, "43: by kind", kinds.asks(), 1, 1);
         OysterBeds open = Checks.with("n000;n000", "w=f");
         open.stills(1, 1);
         open.puts(0, 0);
