@@ -273,11 +273,6 @@ public final class BedsPromisesTest {
         }
         due("8: 99 pearls at most", oyster(many, 0, 4), 99);
         due("8: asked", many.count(3), 101);
-        // More calls than an object is for, since no run of 512 comes so far.
-        for (int i = 0; i < 10000; i++) {
-            many.puts(0, 0);
-        }
-        due("8: 9999 asked at most", many.count(3), 9999);
         due("8: no oysters", new OysterBeds().puts(1, 5), 0);
     }
 

@@ -4,11 +4,32 @@ import java.util.NoSuchElementException;
 final class Checks {
     static final long THROWS = Long.MIN_VALUE;
 
+    private static final long MOST_MILLIS = 120_000;
+
     private int wrong = 0;
     private int made = 0;
 
     interface Call {
         long answer();
+    }
+
+    Checks() {
+        watch();
+    }
+
+    /** A call that doesn't end fails the test, too. */
+    static void watch() {
+        Thread watch = new Thread(() -> {
+            try {
+                Thread.sleep(MOST_MILLIS);
+            } catch (InterruptedException e) {
+                return;
+            }
+            System.out.println("a call did not end");
+            Runtime.getRuntime().halt(1);
+        });
+        watch.setDaemon(true);
+        watch.start();
     }
 
     void due(String call, long got, long want) {

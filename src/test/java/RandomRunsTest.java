@@ -3,10 +3,16 @@ import java.lang.reflect.Method;
 import java.util.NoSuchElementException;
 import java.util.Random;
 
-/** Long runs of calls, each answered by the class and by the model, with all that can be seen. */
+/**
+ * Runs of calls, each answered by the class and by the model. An object is for 512 calls, those by
+ * which it is looked at among them: so the ROW is looked at often, and all else now and then.
+ */
 public final class RandomRunsTest {
-    private static final int RUNS = 200;
+    private static final int RUNS = 2500;
     private static final int CALLS = 512;
+    /** A text that is put and read, and two looks at everything, take no more than that. */
+    private static final int MOST_AT_ONCE = 150;
+    private static final int STEPS_TO_A_LOOK = 8;
     private static final int MOST_PRINTED = 20;
 
     private final Random random;
@@ -23,6 +29,7 @@ public final class RandomRunsTest {
     }
 
     public static void main(String[] args) throws Exception {
+        Checks.watch();
         int runs = args.length > 0 ? Integer.parseInt(args[0]) : RUNS;
         for (int run = 0; run < runs && wrong < MOST_PRINTED; run++) {
             new RandomRunsTest(run).play();
@@ -35,8 +42,15 @@ public final class RandomRunsTest {
 
     private void play() throws Exception {
         int before = wrong;
-        while (made < CALLS && wrong == before) {
+        for (int steps = 1; made < CALLS - MOST_AT_ONCE && wrong == before; steps++) {
             step();
+            if (steps % STEPS_TO_A_LOOK == 0) {
+                look();
+            }
+        }
+        look();
+        if (made > CALLS) {
+            throw new IllegalStateException("more calls than an object is for: " + made);
         }
         if (wrong > before) {
             String all = calls.toString();
@@ -63,7 +77,7 @@ public final class RandomRunsTest {
     }
 
     private int oyster() {
-        return near(0, Math.max(0, beds.count(0) - 1));
+        return near(0, Math.max(0, model.count(0) - 1));
     }
 
     private int topic() {
@@ -92,7 +106,7 @@ public final class RandomRunsTest {
             case 16 -> call("undo");
             case 17 -> call("keep", near(0, 2));
             case 18 -> call("again", near(0, 2));
-            case 19, 20 -> call("seen", topic(), wording(), near(0, Math.max(1, beds.count(0))));
+            case 19, 20 -> call("seen", topic(), wording(), near(0, Math.max(1, model.count(0))));
             case 21, 22 -> call("heard", near(0, 4), near(0, random.nextBoolean() ? 3 : 9));
             case 23 -> call(random.nextInt(3) == 0 ? "forget" : "denies");
             default -> ask();
@@ -120,7 +134,7 @@ public final class RandomRunsTest {
             case 16 -> call("jury");
             case 17 -> call("power", oyster());
             case 18 -> {
-                if (beds.count(0) < 7 || random.nextInt(20) == 0) {
+                if (model.count(0) < 7 || random.nextInt(20) == 0) {
                     call("pivots", oyster());
                 }
             }
@@ -155,7 +169,7 @@ public final class RandomRunsTest {
         if (random.nextInt(8) > 0) {
             call("end", 0);
         }
-        int length = beds.count(10) + signs.length();
+        int length = model.count(10) + signs.length();
         for (int i = 0; i < signs.length(); i += 4) {
             int v = 0;
             for (int j = i; j < i + 4; j++) {
@@ -181,7 +195,7 @@ public final class RandomRunsTest {
     private String season() {
         StringBuilder acts = new StringBuilder();
         for (int i = upTo(random.nextInt(9) == 0 ? 24 : 8); i > 0; i--) {
-            int one = upTo(Math.min(9, beds.count(0)));
+            int one = upTo(Math.min(9, model.count(0)));
             switch (random.nextInt(6)) {
                 case 0 -> acts.append('n').append(upTo(9));
                 case 1, 2 -> acts.append('q').append(upTo(3)).append(upTo(9));
@@ -243,14 +257,28 @@ public final class RandomRunsTest {
         Object got = answer(beds, OysterBeds.class.getMethod(name, types), values);
         Object want = answer(model, Model.class.getMethod(name, types), values);
         same(name, got, want);
-        for (int what = -1; what <= 11; what++) {
-            same("count(" + what + ")", beds.count(what), model.count(what));
+        if (!name.equals("sign") && !name.equals("end")) {
+            lookAtRow();
         }
-        for (int i = 0; i < model.count(9); i++) {
+    }
+
+    private void lookAtRow() {
+        int numbers = model.count(9);
+        made += 1 + numbers;
+        same("count(9)", beds.count(9), numbers);
+        for (int i = 0; i < numbers; i++) {
             same("row(" + i + ")", beds.row(i), model.row(i));
+        }
+    }
+
+    private void look() {
+        for (int what = 0; what <= 10; what++) {
+            made++;
+            same("count(" + what + ")", beds.count(what), model.count(what));
         }
         for (int i = 0; i < model.count(0); i++) {
             for (int what = 0; what < 5; what++) {
+                made++;
                 same("oyster(" + i + ", " + what + ")", beds.oyster(i, what), model.oyster(i, what));
             }
         }
