@@ -63,14 +63,20 @@ final class Checks {
         }
     }
 
+    /** The signs as sign() takes them, four in an int; 0 behind the last one. */
+    static int[] fours(String signs) {
+        int[] fours = new int[(signs.length() + 3) / 4];
+        for (int i = 0; i < 4 * fours.length; i++) {
+            int sign = i < signs.length() ? signs.charAt(i) : 0;
+            fours[i / 4] = fours[i / 4] << 8 | sign;
+        }
+        return fours;
+    }
+
     /** Puts signs behind THE TEXT. */
     static void write(OysterBeds x, String signs) {
         int length = x.count(10) + signs.length();
-        for (int i = 0; i < signs.length(); i += 4) {
-            int v = 0;
-            for (int j = i; j < i + 4; j++) {
-                v = v << 8 | (j < signs.length() ? signs.charAt(j) : 0);
-            }
+        for (int v : fours(signs)) {
             x.sign(v);
         }
         x.end(length);

@@ -1,12 +1,5 @@
 /** The edges that promises 8 to 14 and 50 to 53 name: each sentence in a test of its own. */
-public final class DeedsEdgesTest {
-    private static final String BEDS = Run.BEDS;
-    private static final String EIGHT = Run.EIGHT;
-    private static final String MIN = String.valueOf(Integer.MIN_VALUE);
-    private static final String MAX = String.valueOf(Integer.MAX_VALUE);
-    private static final long NONE = Run.NONE;
-    private static final long THROWS = Run.THROWS;
-
+public final class DeedsEdgesTest extends Edges {
     public static void main(String[] args) {
         promise8();
         promise9();
@@ -19,6 +12,7 @@ public final class DeedsEdgesTest {
         promise13Faults();
         promise14Kept();
         promise14Done();
+        promise14Each();
         promise14Undone();
         promise14Forgotten();
         promise50();
@@ -302,6 +296,36 @@ public final class DeedsEdgesTest {
                 .due("undo()", 1).due("count(2)", 1).due("undo()", 0).due("count(2)", 0)
                 .due("count(3)", 0).each(1, 5, 9, 1, 4).each(2, 3, 2, 7, 1).each(3, 0, 0, 0, 0)
                 .each(4, 0, 0, 0, 0).due("undo()", NONE);
+    }
+
+    /** OYSTERS that are told apart in all they have, and time that went by. */
+    private static Run ahead(String quote) {
+        return aheadOf(Run.of(14, quote).with(BEDS).does("puts(0, 0)", "tides(1)",
+                "sheet(2, 4, 3, 1)"));
+    }
+
+    private static Run aheadOf(Run x) {
+        return x.each(0, 0, 1, 2, 0).each(1, 3, 4, 5, 6).each(2, 3, 2, 7, 1).each(3, 2, 0, 0, 2)
+                .each(4, 1, 0, 1, 1).due("count(2)", 1).due("count(3)", 1);
+    }
+
+    private static void promise14Each() {
+        String latest = "The latest puts(), tides(), stills(), holds(), knife() or season()";
+        for (String act : new String[] {"puts(1, 9)", "puts(3, 0)", "tides(3)", "tides(0)",
+            "stills(0, 0)", "stills(3, 9)", "holds(0, 0)", "holds(3, 15)", "knife(0)",
+            "knife(3)"}) {
+            Run x = ahead(latest).does(act).due("count(8)", 3).due("undo()", 2);
+            aheadOf(x).due("undo()", 1).each(3, 3, 0, 1, 3).due("count(2)", 0)
+                    .each(1, 5, 9, 1, 4);
+        }
+        Run y = ahead(latest).reads("season()", "f30v000k3q19n9", 5).due("count(8)", 3)
+                .due("undo()", 2);
+        aheadOf(y).due("undo()", 1);
+        Run z = ahead(latest).does("holds(0, 0)", "stills(0, 0)", "knife(0)", "tides(9)",
+                "puts(1, 9)").due("count(8)", 7).due("undo()", 6).each(3, 0, 0, 0, 0)
+                .due("undo()", 5).each(3, 0, 0, 0, 2).due("undo()", 4).each(3, 2, 0, 0, 2)
+                .each(4, 1, 0, 1, 1).due("undo()", 3).each(1, 3, 4, 5, 6).due("undo()", 2);
+        aheadOf(z);
     }
 
     private static void promise14Undone() {

@@ -179,7 +179,7 @@ public final class LanguageTest {
             if (!Modifier.isPublic(method.getModifiers()) || throwing) {
                 continue;
             }
-            OysterBeds x = Checks.with(Run.EIGHT, "(c+p*2-f/(k+1))*(n<6)+v*9-w");
+            OysterBeds x = Checks.with(Edges.EIGHT, "(c+p*2-f/(k+1))*(n<6)+v*9-w");
             Object[] values = new Object[method.getParameterCount()];
             java.util.Arrays.fill(values, 2);
             long before = memory.getThreadAllocatedBytes(self);

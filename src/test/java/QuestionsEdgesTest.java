@@ -1,11 +1,5 @@
 /** The edges that promises 15 to 31 name: each sentence in a test of its own. */
-public final class QuestionsEdgesTest {
-    private static final String BEDS = Run.BEDS;
-    private static final String EIGHT = Run.EIGHT;
-    private static final String MIN = String.valueOf(Integer.MIN_VALUE);
-    private static final String MAX = String.valueOf(Integer.MAX_VALUE);
-    private static final long NONE = Run.NONE;
-
+public final class QuestionsEdgesTest extends Edges {
     public static void main(String[] args) {
         promise15();
         promise16();

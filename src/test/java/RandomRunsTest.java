@@ -170,11 +170,7 @@ public final class RandomRunsTest {
             call("end", 0);
         }
         int length = model.count(10) + signs.length();
-        for (int i = 0; i < signs.length(); i += 4) {
-            int v = 0;
-            for (int j = i; j < i + 4; j++) {
-                v = v << 8 | (j < signs.length() ? signs.charAt(j) : 0);
-            }
+        for (int v : Checks.fours(signs)) {
             call("sign", v);
         }
         call("end", length);

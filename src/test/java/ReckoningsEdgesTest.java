@@ -1,11 +1,5 @@
 /** The edges that promises 32 to 49 name: each sentence in a test of its own. */
-public final class ReckoningsEdgesTest {
-    private static final String BEDS = Run.BEDS;
-    private static final String EIGHT = Run.EIGHT;
-    private static final String MIN = String.valueOf(Integer.MIN_VALUE);
-    private static final String MAX = String.valueOf(Integer.MAX_VALUE);
-    private static final long NONE = Run.NONE;
-
+public final class ReckoningsEdgesTest extends Edges {
     public static void main(String[] args) {
         promise32();
         promise33();
@@ -14,6 +8,7 @@ public final class ReckoningsEdgesTest {
         promise36();
         promise37();
         promise38();
+        promise38OneOrNot();
         promise38Now();
         promise39();
         promise40();
@@ -171,6 +166,23 @@ public final class ReckoningsEdgesTest {
         noneSuch(38, "cares");
     }
 
+    /** It holds yes by just 1, no by just 0. */
+    private static void promise38OneOrNot() {
+        String all = "so that all that was seen is so";
+        Run.of(38, all).with("n000", "v=1").does("seen(3, 0, 1)").due("cares(0)", 65280, 8, 8, 15)
+                .does("seen(0, 0, 0)").due("cares(0)", 21760, 4, 8, 14);
+        Run.of(38, all).with("n000", "v=0").does("seen(3, 0, 1)").due("cares(0)", 255, 8, 0, 7)
+                .does("seen(0, 0, 0)").due("cares(0)", 170, 4, 1, 7);
+        Run.of(38, all).with("n003;n500").does("seen(0, 0, 2)").due("cares(1)", 43690, 8, 1, 15)
+                .does("seen(1, 5, 1)").due("cares(1)", 8738, 4, 1, 13);
+        String next = "the fewest of these VIEWS are left at most";
+        Run.of(39, next).with("n000", "v=1").due("next(0)", 0, 8);
+        Run.of(39, next).with("n000", "v=0").due("next(0)", 0, 8).does("seen(0, 0, 1)")
+                .due("next(0)", 10, 4);
+        Run.of(39, next).with("n000", "v+v<2").due("next(0)", 0, 8);
+        Run.of(39, next).with("n000", "v>1").due("next(0)", 0, 16);
+    }
+
     private static void promise38Now() {
         String now = "all else being as it is";
         Run.of(38, now).with("n901;n001;n000", "v").does("seen(0, 0, 2)")
@@ -309,9 +321,18 @@ public final class ReckoningsEdgesTest {
                 .due("asks()", 30, 1);
         Run x = Run.of(43, ask).with("n001;n000", "v").does("puts(0, 0)", "tides(1)", "holds(1, 1)")
                 .due("asks()", 41, 1);
-        x.doesTimes(7, "puts(0, 0)", "tides(1)").due("asks()", 48, 1)
-                .does("puts(0, 0)", "tides(1)").due("asks()", 49, 1)
-                .does("puts(0, 0)", "tides(1)").due("asks()", 0, 2);
+        for (int pearl = 2; pearl <= 9; pearl++) {
+            x.does("puts(0, 0)", "tides(1)").due("asks()", 40 + pearl, 1);
+        }
+        x.does("puts(0, 0)", "tides(1)").due("asks()", 0, 2);
+        for (int fear = 1; fear <= 9; fear++) {
+            Run.of(43, ask).with("n" + fear + "00;n" + (fear - 1) + "00")
+                    .due("asks()", 10 + fear, 1);
+        }
+        for (int topic = 0; topic <= 3; topic++) {
+            Run.of(43, ask).with("n000;n0" + (1 << topic) / 10 + (1 << topic) % 10)
+                    .due("asks()", 20 + topic, 1);
+        }
         Run.of(43, ask).with("n000;p000;p900").does("heard(0, 1)").due("asks()", 11, 1)
                 .does("heard(1, 1)").due("asks()", 0, 1);
         String none = "-2: none fits.";

@@ -16,12 +16,8 @@ import java.util.regex.Pattern;
  * 512 calls, since what later ones answer is free.
  */
 final class Run {
-    static final long NONE = -1;
-    static final long THROWS = Checks.THROWS;
     static final int WHAT_IT_IS = -1;
     static final int TERMS = 0;
-    static final String BEDS = "n503;p902;r107;n401";
-    static final String EIGHT = "n000;n000;n000;n000;n000;n000;n000;n000";
     private static final int MOST_CALLS = 512;
     private static final Checks CHECKS = new Checks();
     private static final Map<String, Method> FACE = face();
@@ -77,7 +73,7 @@ final class Run {
         return parts;
     }
 
-    /** What a call answers; NoSuchElementException is THROWS, and none else may come. */
+    /** What a call answers; NoSuchElementException is Edges.THROWS, and none else may come. */
     long answer(String call) {
         calls++;
         if (calls > MOST_CALLS) {
@@ -95,7 +91,7 @@ final class Run {
             return answer instanceof Boolean so ? so ? 1 : 0 : ((Number) answer).longValue();
         } catch (InvocationTargetException e) {
             if (e.getCause().getClass() == NoSuchElementException.class) {
-                return THROWS;
+                return Edges.THROWS;
             }
             CHECKS.due(sentence + ": " + call + " threw " + e.getCause(), false, true);
             return Long.MAX_VALUE;
@@ -126,11 +122,7 @@ final class Run {
     /** Puts signs behind THE TEXT. */
     Run text(String signs) {
         int length = (int) answer("count(10)") + signs.length();
-        for (int i = 0; i < signs.length(); i += 4) {
-            int v = 0;
-            for (int j = i; j < i + 4; j++) {
-                v = v << 8 | (j < signs.length() ? signs.charAt(j) : 0);
-            }
+        for (int v : Checks.fours(signs)) {
             answer("sign(" + v + ")");
         }
         if (signs.length() % 4 != 0) {
@@ -162,7 +154,7 @@ final class Run {
         for (int i = 0; i < want.length; i++) {
             due("row(" + i + ")", want[i]);
         }
-        return due("row(" + want.length + ")", THROWS);
+        return due("row(" + want.length + ")", Edges.THROWS);
     }
 
     Run due(String call, long want, long... row) {
@@ -180,7 +172,7 @@ final class Run {
 
     /** Beds in which much was done, so that little can change without being seen. */
     Run busy() {
-        with(BEDS, "v*9-f+w-p");
+        with(Edges.BEDS, "v*9-f+w-p");
         does("puts(0, 3)", "tides(1)", "keep(0)", "holds(1, 6)", "puts(1, 9)", "stills(2, 6)",
                 "keep(2)", "tides(1)", "seen(1, 2, 3)", "seen(0, 9, 1)", "heard(1, 2)",
                 "heard(2, 1)", "shyest(1, 4)");
@@ -214,7 +206,7 @@ final class Run {
     /** What is left to be undone; for that, too, the object is spent. */
     private String seenOfUndos() {
         StringBuilder seen = new StringBuilder();
-        for (int i = 0; i < 16 && ask(seen, "undo()") != NONE; i++) {
+        for (int i = 0; i < 16 && ask(seen, "undo()") != Edges.NONE; i++) {
             askBeds(seen);
         }
         return seen.toString();

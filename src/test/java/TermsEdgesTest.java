@@ -1,12 +1,5 @@
 /** The edges that the TERMS name, and promises 1 to 7: each sentence in a test of its own. */
-public final class TermsEdgesTest {
-    private static final String BEDS = Run.BEDS;
-    private static final String EIGHT = Run.EIGHT;
-    private static final String MIN = String.valueOf(Integer.MIN_VALUE);
-    private static final String MAX = String.valueOf(Integer.MAX_VALUE);
-    private static final long NONE = Run.NONE;
-    private static final long THROWS = Run.THROWS;
-
+public final class TermsEdgesTest extends Edges {
     public static void main(String[] args) {
         oysters();
         lines();
