@@ -114,6 +114,14 @@ public final class QuestionsEdgesTest extends Edges {
                 .reads("rule()", "0", 0).due("shyest(0, 0)", 0, 0, 0, 0);
         Run.of(18, kind).with("r000;n000;p000;r000;p000", "1").due("shyest(0, 0)", 1, 1, 2, 2);
         Run.of(18, kind).due("shyest(0, 0)", 0, 0, 0, 0);
+        for (int i = 0; i < 27; i++) {
+            int[] of = {i / 9, i / 3 % 3, i % 3};
+            int most = Math.max(of[0], Math.max(of[1], of[2]));
+            int want = of[0] == most ? 0 : of[1] == most ? 1 : 2;
+            String lines = "r000;".repeat(of[2]) + "p000;".repeat(of[1]) + "n000;".repeat(of[0]);
+            Run.of(18, kind).with(lines.isEmpty() ? "" : lines.substring(0, lines.length() - 1), "1")
+                    .due("shyest(1, 1)", want, of[0], of[1], of[2]);
+        }
         String row = "the ROW: how many of each KIND would (three)";
         Run.of(18, row).with(EIGHT, "1").due("shyest(0, 0)", 0, 8, 0, 0);
         Run.of(18, row).with(EIGHT.replace('n', 'r'), "1").due("shyest(0, 0)", 2, 0, 0, 8)

@@ -3,6 +3,7 @@ public final class ReckoningsEdgesTest extends Edges {
     public static void main(String[] args) {
         promise32();
         promise33();
+        promises32And33All();
         promise34();
         promise35();
         promise36();
@@ -78,12 +79,77 @@ public final class ReckoningsEdgesTest extends Edges {
         noneSuch(33, "pivots");
     }
 
+    /** Of all orders of OYSTERS, and of all sets ahead of one, in how many it is the one. */
+    private static void comes(int[] counts, int all, int came, int[] firsts) {
+        int sum = 0;
+        for (int o = 0; o < counts.length; o++) {
+            sum += (came >> o & 1) * counts[o];
+        }
+        for (int o = 0; o < counts.length; o++) {
+            if ((came >> o & 1) == 0 && 2 * sum <= all && 2 * (sum + counts[o]) > all) {
+                int rest = 1;
+                for (int left = counts.length - Integer.bitCount(came) - 1; left > 1; left--) {
+                    rest *= left;
+                }
+                firsts[o] += rest;
+            } else if ((came >> o & 1) == 0) {
+                comes(counts, all, came | 1 << o, firsts);
+            }
+        }
+    }
+
+    private static long[] fraction(long upper, long lower) {
+        long by = lower;
+        while (upper % by != 0 || lower % by != 0) {
+            by--;
+        }
+        return new long[] {upper / by, lower / by};
+    }
+
+    private static void promises32And33All() {
+        String[] beds = {"9", "90", "09", "951", "159", "0369", "99980", "531246", "0000009",
+            "90246813", "12345678", "99999990"};
+        for (String fears : beds) {
+            int many = fears.length();
+            int[] counts = new int[many];
+            int all = 0;
+            int orders = 1;
+            StringBuilder lines = new StringBuilder();
+            for (int o = 0; o < many; o++) {
+                counts[o] = 10 - (fears.charAt(o) - '0');
+                all += counts[o];
+                orders *= o + 1;
+                lines.append(o > 0 ? ";n" : "n").append(fears.charAt(o)).append("00");
+            }
+            int[] firsts = new int[many];
+            comes(counts, all, 0, firsts);
+            for (int o = 0; o < many; o++) {
+                int sets = 0;
+                for (int set = 0; set < 1 << many; set++) {
+                    int sum = 0;
+                    for (int other = 0; other < many; other++) {
+                        sum += (set >> other & 1) * counts[other];
+                    }
+                    boolean turns = 2 * sum <= all && 2 * (sum + counts[o]) > all;
+                    sets += (set >> o & 1) == 0 && turns ? 1 : 0;
+                }
+                Run.of(32, "Of all sets of the others").with(lines.toString())
+                        .due("power(" + o + ")", 0, fraction(sets, 1 << many - 1));
+                Run.of(33, "Of all orders in which OYSTERS can come").with(lines.toString())
+                        .due("pivots(" + o + ")", 0, fraction(firsts[o], orders));
+            }
+        }
+    }
+
     private static void promise34() {
         String fewest = "The fewest OYSTERS that decide (as power()): how many; the ROW: they "
                 + "(bits: of as few the least), of how many TOPICS all of these hold alike.";
         Run.of(34, fewest).with("n900").due("rules()", 1, 1, 4);
         Run.of(34, fewest).with("n900;n015").due("rules()", 1, 2, 4);
         Run.of(34, fewest).with("n000;n015").due("rules()", 2, 3, 0);
+        Run.of(34, fewest).with("n015;n000").due("rules()", 2, 3, 0);
+        Run.of(34, fewest).with("n015;n015").due("rules()", 2, 3, 4);
+        Run.of(34, fewest).with("n012;n010").due("rules()", 2, 3, 2);
         Run.of(34, fewest).with("n000;n007;n000").due("rules()", 2, 3, 1);
         Run.of(34, fewest).with("n900;n003;n005").due("rules()", 2, 3, 2);
         Run.of(34, fewest).with("n900;n703;n900;n505").due("rules()", 2, 9, 2);
@@ -100,6 +166,8 @@ public final class ReckoningsEdgesTest extends Edges {
         String parted = "OYSTERS are parted in two so that what both parts count (as power()) "
                 + "differs the least: by how much; the ROW: one part (bits: of as good ones the "
                 + "least), what it counts.";
+        Run.of(35, parted).due("parties()", 0, 0, 0);
+        Run.of(35, parted).with("n300").due("parties()", 7, 0, 0);
         Run.of(35, parted).with("n500;n500").due("parties()", 0, 1, 5);
         Run.of(35, parted).with("n000;n900").due("parties()", 9, 1, 10);
         Run.of(35, parted).with("n900;n000").due("parties()", 9, 1, 1);
@@ -212,7 +280,8 @@ public final class ReckoningsEdgesTest extends Edges {
         Run.of(39, next).with("n000", "v=0").due("next(0)", 0, 8);
         Run.of(39, next).with("n000;n000", "1").due("next(1)", 0, 16).does("puts(0, 0)")
                 .due("next(0)", 0, 16);
-        // Of 3 of TOPIC 0 alike, 2 and 1 are told apart by TOPIC 1.
+        Run.of(39, next).with(EIGHT, "1").due("next(7)", 0, 16).reads("rule()", "v+w>8", 0)
+                .due("next(7)", 8, 8).does("seen(0, 8, 0)").due("next(7)", 18, 4);
         Run.of(39, next).with(EIGHT, "v").does("seen(3, 0, 0)", "seen(2, 0, 1)")
                 .due("next(7)", 0, 2).due("count(1)", 255);
         String none = "-2: none is left";
@@ -518,7 +587,7 @@ public final class ReckoningsEdgesTest extends Edges {
 
     // ---- promise 49
 
-    /** The years by the rule v*(n<5)*k, by the words, of Portuguese: CLOSED, OPEN, PEARLS. */
+    /** The years by the rule v*(w<7)*(n<5)*k, by the words, of Portuguese: CLOSED, OPEN, PEARLS. */
     private static long[] yearsOf(int seed, int n, int[] fears, int[] views) {
         long r = seed & 0xffffffffL;
         int many = fears.length;
@@ -539,7 +608,7 @@ public final class ReckoningsEdgesTest extends Edges {
                 holds[drawn[0]] = drawn[1];
             }
             for (int o = 0; o < many; o++) {
-                boolean yes = what == 2 && (holds[o] >> drawn[0] & 1) == 1;
+                boolean yes = what == 2 && (holds[o] >> drawn[0] & 1) == 1 && drawn[1] < 7;
                 if (what < 2) {
                     shut[o] = Math.max(0, shut[o] - 1);
                 } else if (yes && shut[o] == 0 && tide % 7 < 5) {
@@ -569,7 +638,7 @@ public final class ReckoningsEdgesTest extends Edges {
                         .append(views[o] / 10).append(views[o] % 10);
             }
             long[] want = yearsOf(seed, n, fears, views);
-            Run x = Run.of(49, quote).with(lines.toString(), "v*(n<5)*k")
+            Run x = Run.of(49, quote).with(lines.toString(), "v*(w<7)*(n<5)*k")
                     .due("years(" + seed + ", " + n + ")", want[0], want[1], want[2])
                     .due("count(1)", (1 << many) - 1).due("count(2)", 0).due("count(3)", 0)
                     .due("count(4)", 0).due("count(8)", 0);
